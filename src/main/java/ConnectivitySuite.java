@@ -388,7 +388,8 @@ public final class ConnectivitySuite {
 
     // The line that was come by is no way back, but another one between the same points is.
     private boolean leadsOn(int at, int k) {
-        return isLine(k) && k != cameBy[at] && ((ends[k] >> at) & 1) == 1;
+        boolean touches = ((lineSet >> k) & 1) == 1 && ((ends[k] >> at) & 1) == 1;
+        return touches && k != cameBy[at];
     }
 
     private void leave(int p, int root) {

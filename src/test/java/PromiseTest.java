@@ -147,8 +147,13 @@ public final class PromiseTest {
         findings("6 points alone", graph(8, ""), 8, 0, 0);
         findings("6 two pairs and a point", graph(5, "04 13"), 3, set(0, 1), 0);
         findings("6 upwards and downwards", graph(8, "76 65 54 43 32 21 10"), 1, 127, 126);
+        findings("6 the first point's last line", graph(8, "01 12 23 34 45 56 01 12 23 34 45 56 01 12 23 07"),
+            1, 1 << 15, set(0, 1, 2, 3, 4, 5));
         findings("6 a winding way", graph(8, "07 73 35 51 16 64 42"), 1, 127, set(1, 3, 4, 5, 6, 7));
         ConnectivitySuite x = graph(4, "01");
+        for (int engine = 0; engine < 3; engine++) {
+            DUE.is("6 asked first of all, engine " + engine, graph(4, "13").groups(engine), 3);
+        }
         for (int engine : NO_ENGINE) {
             DUE.is("6 groups(" + engine + ")", x.groups(engine), BAD);
         }
@@ -165,6 +170,12 @@ public final class PromiseTest {
         findings("7 the one that stays", x, 1, 2, 0);
         ConnectivitySuite last = graph(3, "01 ".repeat(15) + "12");
         findings("7 the last number", last, 1, 1 << 15, 2);
+        for (int engine = 0; engine < 3; engine++) {
+            ConnectivitySuite y = graph(4, "01 12 20 23");
+            DUE.is("7 asked first of all, engine " + engine, y.bridges(engine), 8);
+            y.add(3, 0);
+            DUE.is("7 and after a change, engine " + engine, y.bridges(engine), 0);
+        }
         for (int engine : NO_ENGINE) {
             DUE.is("7 bridges(" + engine + ")", x.bridges(engine), BAD);
         }
@@ -180,6 +191,12 @@ public final class PromiseTest {
         findings("8 the last point", graph(8, "70 71 23"), 5, 7, 128);
         findings("8 one point", graph(1, ""), 1, 0, 0);
         ConnectivitySuite x = graph(3, "01 12");
+        for (int engine = 0; engine < 3; engine++) {
+            ConnectivitySuite y = graph(4, "01 12 20 23");
+            DUE.is("8 asked first of all, engine " + engine, y.hinges(engine), 4);
+            y.add(3, 0);
+            DUE.is("8 and after a change, engine " + engine, y.hinges(engine), 0);
+        }
         for (int engine : NO_ENGINE) {
             DUE.is("8 hinges(" + engine + ")", x.hinges(engine), BAD);
         }
@@ -213,6 +230,8 @@ public final class PromiseTest {
         for (int k = 0; k < 6; k++) {
             DUE.is("10 two rings at one point, block(" + k + ")", x.block(k), k < 3 ? 7 : 56);
         }
+        DUE.is("10 two rings at the first point", graph(5, "01 12 20 03 34 40").block(1), 7);
+        DUE.is("10 two rings at the last point", graph(5, "41 12 24 43 30 04").block(1), 7);
         ConnectivitySuite way = graph(4, "01 12 23");
         DUE.is("10 a bridge is alone", way.block(1), 2);
         way.add(0, 3);
@@ -296,6 +315,8 @@ public final class PromiseTest {
         DUE.is("15 two lines", graph(5, "01 12 20 34 34").shortest(), 2);
         DUE.is("15 the last is least", graph(8, "01 12 23 30 45 56 64").shortest(), 3);
         DUE.is("15 the first is least", graph(8, "01 12 20 34 45 56 67 73").shortest(), 3);
+        DUE.is("15 a line without a ring behind it", graph(4, "01 12 20 23").shortest(), 3);
+        DUE.is("15 a line without a ring before it", graph(4, "23 01 12 20").shortest(), 3);
         DUE.is("15 eight", graph(8, "01 12 23 34 45 56 67 70").shortest(), 8);
         DUE.is("15 cut off by a chord", graph(8, "01 12 23 34 45 56 67 70 04").shortest(), 5);
     }
