@@ -68,13 +68,13 @@ public final class BoundaryTest {
     private static void weakestAndFragile() {
         DUE.sentence("12: weakest, 0 when there is only one point",
             () -> onlyOnePoint("weakest()", x -> x.weakest()));
-        DUE.sentence("12: weakest, 0 when there is more than one group",
+        DUE.sentence("12: weakest, 0 when there is .. more than one group",
             () -> moreThanOneGroup("weakest()", x -> x.weakest()));
         DUE.sentence("12: The least number of lines without which there are more groups than with all",
             BoundaryTest::weakestFromOneToSixteen);
         DUE.sentence("13: fragile, 0 when there is only one point",
             () -> onlyOnePoint("fragile()", x -> x.fragile()));
-        DUE.sentence("13: fragile, 0 when there is more than one group",
+        DUE.sentence("13: fragile, 0 when there is .. more than one group",
             () -> moreThanOneGroup("fragile()", x -> x.fragile()));
         DUE.sentence("13: or only one point is left", BoundaryTest::onlyOnePointIsLeft);
         DUE.sentence("13: the others are not in one group", BoundaryTest::othersAreNotInOneGroup);
